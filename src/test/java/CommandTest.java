@@ -139,6 +139,9 @@ public final class CommandTest {
         s.command(0, Probe.STRIKE, 4, 5, 0).is(1);
         s.command(0, Probe.SCORE, 4, 15, -5).is(1);
         s.holds(4, 0, 10, 9, 8, 7, 6, 15, 4, 3, 2, 1, 11);
+        s.command(0, Probe.RAISE, 4, 0, 200).is(100);
+        s.command(0, Probe.SCORE, 4, 10, 100).is(0);
+        s.holds(4, 9, 8, 7, 6, 15, 4, 3, 2, 1, 11, 0, 10);
     }
 
     private static void aScoreKeepsTheDeadline() {

@@ -121,6 +121,8 @@ public final class CommitTest {
         changes(s, true, Probe.SCORE, 1, 5, 8);
         changes(s, true, Probe.RAISE, 1, 5, 0);
         changes(s, true, Probe.RAISE, 1, 6, 0);
+        changes(s, false, Probe.SCORE, 1, 5, 8);
+        changes(s, true, Probe.SCORE, 1, 5, 9);
         changes(s, false, Probe.STRIKE, 1, 7, 0);
         changes(s, true, Probe.STRIKE, 1, 6, 0);
         changes(s, true, Probe.LEAST, 1, 6, 0);
