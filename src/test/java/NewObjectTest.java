@@ -3,63 +3,75 @@ public final class NewObjectTest {
     public static void main(String[] args) {
         keysAreNothing();
         clientsAreReady();
+        clientsHaveNoResultsAndTookNothing();
         nothingIsWatched();
+        nothingIsSafe();
         objectsShareNothing();
-        theTimeIsZero();
         Probe.finish();
     }
 
+    /** "Keys all NOTHING" */
     private static void keysAreNothing() {
         Probe s = new Probe();
         for (int key = 0; key < 8; key++) {
-            s.ask(key, 0).is(Probe.NOTHING);
-            s.ask(key, 1).is(0);
-            s.ask(key, 2).is(0);
-            s.ask(key, 3).is(-1);
-            s.element(key, 0).is(Probe.NONE);
+            s.isNothing(key);
             s.member(key, 0, 0).is(Probe.NONE);
             s.between(key, Probe.LOW, Probe.HIGH).is(0);
         }
     }
 
+    /** "clients all READY" */
     private static void clientsAreReady() {
         Probe s = new Probe();
         for (int client = 0; client < 4; client++) {
             s.got(client, 0).is(Probe.READY);
+            s.got(client, 3).is(Probe.NONE);
+            s.commit(client).is(-1);
+            s.begin(client).is(true);
+            s.commit(client).is(0);
+        }
+    }
+
+    private static void clientsHaveNoResultsAndTookNothing() {
+        Probe s = new Probe();
+        for (int client = 0; client < 4; client++) {
             s.got(client, 1).is(Probe.NONE);
             s.got(client, 2).is(Probe.NONE);
-            s.got(client, 3).is(Probe.NONE);
             s.result(client, 0).is(Probe.NONE);
         }
     }
 
+    /** "nothing watched" */
     private static void nothingIsWatched() {
         Probe s = new Probe();
         for (int key = 0; key < 8; key++) {
-            s.command(0, Probe.PUT, key, 1, 0).is(0);
+            s.put(key, 1).is(0);
         }
         for (int client = 0; client < 4; client++) {
-            s.begin(client).is(true);
-            s.commit(client).is(0);
+            s.deceived(client, false);
+        }
+    }
+
+    private static void nothingIsSafe() {
+        Probe s = new Probe();
+        s.crash().is(0);
+        for (int key = 0; key < 8; key++) {
+            s.isNothing(key);
         }
     }
 
     private static void objectsShareNothing() {
         Probe one = new Probe();
         Probe other = new Probe();
-        one.command(0, Probe.PUT, 0, 1, 0).is(0);
+        one.put(0, 1).is(0);
         one.sync();
+        one.tick(9).is(0);
         one.begin(0).is(true);
         other.ask(0, 0).is(Probe.NOTHING);
         other.got(0, 0).is(Probe.READY);
         other.crash().is(0);
-    }
-
-    private static void theTimeIsZero() {
-        Probe s = new Probe();
-        s.command(0, Probe.PUT, 0, 1, 0).is(0);
-        s.command(0, Probe.EXPIRE, 0, 1, 0).is(1);
-        s.tick(0).is(0);
-        s.tick(1).is(1);
+        one.ask(0, 1).is(1);
+        one.got(0, 0).is(Probe.GATHERING);
+        new Probe().ask(0, 0).is(Probe.NOTHING);
     }
 }

@@ -1,24 +1,32 @@
-/** Promise 18: which test comes first. */
+/** Promise 18: which test comes first; and the constants of the public face. */
 public final class OrderTest {
     public static void main(String[] args) {
-        commit();
-        commandRefusesBeforeFull();
-        commandRefusesBeforeWrong();
-        listenRefusesBeforeWrong();
+        commitTestsGatheringFirst();
+        commandRefusesBeforeItIsFull();
+        commandRefusesBeforeItIsQueued();
+        commandRefusesBeforeTheKeyIsFull();
+        commandRefusesBeforeItIsWrong();
+        commandRefusesBeforeAnythingElse();
+        listenRefusesBeforeItIsWrong();
+        listenRefusesBeforeItTakes();
         theConstants();
         Probe.finish();
     }
 
-    private static void commit() {
+    /** "commit tests first whether the client is GATHERING (-1), then whether it is deceived (-2)" */
+    private static void commitTestsGatheringFirst() {
         Probe s = new Probe();
         s.watch(2, 0).is(true);
-        s.command(0, Probe.PUT, 0, 1, 0).is(0);
+        s.put(0, 1).is(0);
         s.commit(2).is(-1);
-        s.deceived(true);
+        s.listen(2, 7, 7, 1).is(Probe.NONE);
         s.commit(2).is(-1);
+        s.tick(1).is(0);
+        s.deceived(2, true);
     }
 
-    private static void commandRefusesBeforeFull() {
+    /** "command and listen test REFUSED before FULL": that eight are queued. */
+    private static void commandRefusesBeforeItIsFull() {
         Probe s = new Probe();
         s.begin(0).is(true);
         for (int i = 0; i < 8; i++) {
@@ -29,48 +37,93 @@ public final class OrderTest {
         s.command(0, Probe.SCORE, 0, 16, 0).is(Probe.REFUSED);
         s.command(0, Probe.EXPIRE, 0, 101, 0).is(Probe.REFUSED);
         s.command(0, Probe.RENAME, 0, 0, 0).is(Probe.REFUSED);
+        s.command(0, Probe.RENAME, 0, 8, 0).is(Probe.REFUSED);
         s.command(0, Probe.BACK, 0, 8, 0).is(Probe.FULL);
-        s.commit(0).is(8);
-        for (int m = 0; m < 12; m++) {
-            s.command(0, Probe.SCORE, 1, m, 0).is(1);
-        }
+    }
+
+    private static void commandRefusesBeforeItIsQueued() {
+        Probe s = new Probe();
+        s.begin(0).is(true);
+        s.command(0, -1, 0, 0, 0).is(Probe.REFUSED);
+        s.command(0, Probe.BACK, 8, 0, 0).is(Probe.REFUSED);
+        s.command(0, Probe.RAISE, 0, -1, 0).is(Probe.REFUSED);
+        s.command(0, Probe.EXPIRE, 0, -1, 0).is(Probe.REFUSED);
+        s.command(0, Probe.RENAME, 3, 3, 0).is(Probe.REFUSED);
+        s.commit(0).is(0);
+    }
+
+    /** "REFUSED before FULL": that the ranking has twelve members. */
+    private static void commandRefusesBeforeTheKeyIsFull() {
+        Probe s = new Probe();
+        s.rankUp(1);
         s.command(0, Probe.SCORE, 1, 16, 0).is(Probe.REFUSED);
         s.command(0, Probe.RAISE, 1, -1, 0).is(Probe.REFUSED);
+        s.fillUp(2);
+        s.listen(1, 7, 7, 0).is(Probe.NONE);
+        s.command(1, Probe.BACK, 2, 0, 0).is(Probe.REFUSED);
     }
 
-    private static void commandRefusesBeforeWrong() {
+    /** "REFUSED before ... WRONG" */
+    private static void commandRefusesBeforeItIsWrong() {
         Probe s = new Probe();
-        s.command(0, Probe.PUT, 0, 1, 0).is(0);
+        s.put(0, 1).is(0);
         s.command(0, Probe.SCORE, 0, 16, 0).is(Probe.REFUSED);
+        s.command(0, Probe.RAISE, 0, 16, 0).is(Probe.REFUSED);
         s.command(0, Probe.STRIKE, 0, -1, 0).is(Probe.REFUSED);
-        s.listen(1, 1, 1, 0).is(Probe.NONE);
-        s.command(1, Probe.BACK, 0, 0, 0).is(Probe.REFUSED);
         s.command(4, Probe.BACK, 0, 0, 0).is(Probe.REFUSED);
+        s.listen(1, 7, 7, 0).is(Probe.NONE);
+        s.command(1, Probe.BACK, 0, 0, 0).is(Probe.REFUSED);
+    }
+
+    /** "REFUSED before ... all else": what they answer on a key that is NOTHING. */
+    private static void commandRefusesBeforeAnythingElse() {
+        Probe s = new Probe();
         s.command(0, Probe.EXPIRE, 2, 101, 0).is(Probe.REFUSED);
         s.command(0, Probe.RENAME, 2, 2, 0).is(Probe.REFUSED);
+        s.command(0, Probe.STRIKE, 2, 16, 0).is(Probe.REFUSED);
+        s.command(4, Probe.TAKE, 2, 0, 0).is(Probe.REFUSED);
+        s.listen(1, 7, 7, 0).is(Probe.NONE);
+        s.command(1, Probe.LEAST, 2, 0, 0).is(Probe.REFUSED);
     }
 
-    private static void listenRefusesBeforeWrong() {
+    private static void listenRefusesBeforeItIsWrong() {
         Probe s = new Probe();
-        s.command(0, Probe.PUT, 0, 1, 0).is(0);
-        s.fill(1, 1);
+        s.put(0, 1).is(0);
         s.listen(0, 0, 8, 0).is(Probe.REFUSED);
         s.listen(0, -1, 0, 0).is(Probe.REFUSED);
         s.listen(0, 0, 0, 51).is(Probe.REFUSED);
-        s.listen(0, 1, 1, -1).is(Probe.REFUSED);
+        s.listen(0, 0, 0, -1).is(Probe.REFUSED);
         s.listen(4, 0, 0, 0).is(Probe.REFUSED);
         s.begin(0).is(true);
         s.listen(0, 0, 0, 0).is(Probe.REFUSED);
+        s.listen(1, 7, 7, 0).is(Probe.NONE);
+        s.listen(1, 0, 0, 0).is(Probe.REFUSED);
+    }
+
+    private static void listenRefusesBeforeItTakes() {
+        Probe s = new Probe();
+        s.fill(1, 1);
+        s.listen(0, 1, 8, 0).is(Probe.REFUSED);
+        s.listen(0, -1, 1, 0).is(Probe.REFUSED);
+        s.listen(0, 1, 1, 51).is(Probe.REFUSED);
+        s.listen(4, 1, 1, 0).is(Probe.REFUSED);
+        s.begin(0).is(true);
         s.listen(0, 1, 1, 0).is(Probe.REFUSED);
-        s.holds(1, 1);
+        s.listen(2, 7, 7, 0).is(Probe.NONE);
+        s.listen(2, 1, 1, 0).is(Probe.REFUSED);
+        s.isList(1, 1);
     }
 
     private static void theConstants() {
-        Probe.answer("WRONG", WaitingStore.WRONG).is(Probe.WRONG);
-        Probe.answer("EMPTY", WaitingStore.EMPTY).is(Probe.EMPTY);
-        Probe.answer("FULL", WaitingStore.FULL).is(Probe.FULL);
-        Probe.answer("REFUSED", WaitingStore.REFUSED).is(Probe.REFUSED);
-        Probe.answer("QUEUED", WaitingStore.QUEUED).is(Probe.QUEUED);
-        Probe.answer("NONE", WaitingStore.NONE).is(Probe.NONE);
+        constant("WRONG", WaitingStore.WRONG, 10000000001L);
+        constant("EMPTY", WaitingStore.EMPTY, 10000000002L);
+        constant("FULL", WaitingStore.FULL, 10000000003L);
+        constant("REFUSED", WaitingStore.REFUSED, 10000000004L);
+        constant("QUEUED", WaitingStore.QUEUED, 10000000005L);
+        constant("NONE", WaitingStore.NONE, 10000000006L);
+    }
+
+    private static void constant(String name, long got, long want) {
+        Probe.compare(got == want, name + " is " + got + ", due is " + want);
     }
 }

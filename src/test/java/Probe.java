@@ -8,38 +8,56 @@ final class Probe {
             REFUSED = 10000000004L, QUEUED = 10000000005L, NONE = 10000000006L;
     static final int LOW = Integer.MIN_VALUE, HIGH = Integer.MAX_VALUE;
 
+    private static final int CALLS = 512;
+
     private static int compared = 0;
     private static int wrong = 0;
 
     private final WaitingStore store = new WaitingStore();
+    private int calls = 0;
 
     /** What a call answered, waiting to be compared. */
     static final class Answer {
         private final String call;
-        private final long got;
+        final long got;
 
         Answer(String call, long got) {
             this.call = call;
             this.got = got;
         }
 
+        @Override
+        public String toString() {
+            return call + " answered " + got;
+        }
+
         void is(long want) {
-            compared++;
-            if (got != want) {
-                wrong++;
-                StackTraceElement[] stack = new Throwable().getStackTrace();
-                System.out.println(stack[1] + ": " + call + " answered " + got + ", due is " + want);
-            }
+            compare(got == want, call + " answered " + got + ", due is " + want);
         }
 
         void is(boolean want) {
-            compared++;
-            if (got != (want ? 1 : 0)) {
-                wrong++;
-                StackTraceElement[] stack = new Throwable().getStackTrace();
-                System.out.println(stack[1] + ": " + call + " answered " + (got == 1) + ", due is " + want);
-            }
+            compare(got == (want ? 1 : 0), call + " answered " + (got == 1) + ", due is " + want);
         }
+    }
+
+    static void compare(boolean holds, String message) {
+        compared++;
+        if (!holds) {
+            wrong++;
+            System.out.println(testLine() + ": " + message);
+        }
+    }
+
+    /** The line that main's own method had reached, which names the sentence that is tested. */
+    private static String testLine() {
+        String line = "";
+        for (StackTraceElement e : new Throwable().getStackTrace()) {
+            if (e.getMethodName().equals("main")) {
+                break;
+            }
+            line = e.toString();
+        }
+        return line;
     }
 
     /** Ends the test, with exit code 1 if an answer was wrong. */
@@ -50,11 +68,16 @@ final class Probe {
         }
     }
 
-    static Answer answer(String call, long got) {
-        return new Answer(call, got);
+    /** Numbers of which none is in 0..bound - 1: next to both ends, and the farthest from them. */
+    static int[] outside(int bound) {
+        return new int[] {-1, bound, LOW, HIGH};
     }
 
-    private static Answer answer(String name, long got, int... arguments) {
+    private Answer answer(String name, long got, int... arguments) {
+        calls++;
+        if (calls > CALLS) {
+            compare(false, "an object is used for more than " + CALLS + " calls");
+        }
         StringBuilder call = new StringBuilder(name + "(");
         for (int i = 0; i < arguments.length; i++) {
             call.append(i == 0 ? "" : ", ").append(arguments[i]);
@@ -100,6 +123,7 @@ final class Probe {
 
     void sync() {
         store.sync();
+        answer("sync", 0);
     }
 
     Answer crash() {
@@ -108,6 +132,7 @@ final class Probe {
 
     void rewrite() {
         store.rewrite();
+        answer("rewrite", 0);
     }
 
     Answer ask(int key, int what) {
@@ -126,8 +151,103 @@ final class Probe {
         return answer("between", store.between(key, least, most), key, least, most);
     }
 
-    /** The key is a list of just these elements, or a ranking of just these members in this order. */
-    void holds(int key, int... items) {
+    // The commands as client 3 does them, so that the others are free for what a test is about.
+
+    Answer put(int key, int a) {
+        return command(3, PUT, key, a, 0);
+    }
+
+    Answer add(int key, int a) {
+        return command(3, ADD, key, a, 0);
+    }
+
+    Answer drop(int key) {
+        return command(3, DROP, key, 0, 0);
+    }
+
+    Answer expire(int key, int a) {
+        return command(3, EXPIRE, key, a, 0);
+    }
+
+    Answer front(int key, int a) {
+        return command(3, FRONT, key, a, 0);
+    }
+
+    Answer back(int key, int a) {
+        return command(3, BACK, key, a, 0);
+    }
+
+    Answer take(int key, int a) {
+        return command(3, TAKE, key, a, 0);
+    }
+
+    Answer score(int key, int m, int b) {
+        return command(3, SCORE, key, m, b);
+    }
+
+    Answer raise(int key, int m, int b) {
+        return command(3, RAISE, key, m, b);
+    }
+
+    Answer strike(int key, int m) {
+        return command(3, STRIKE, key, m, 0);
+    }
+
+    Answer least(int key) {
+        return command(3, LEAST, key, 0, 0);
+    }
+
+    Answer rename(int key, int a) {
+        return command(3, RENAME, key, a, 0);
+    }
+
+    /** Puts these elements behind those of a list. */
+    void fill(int key, int... elements) {
+        for (int element : elements) {
+            back(key, element);
+        }
+    }
+
+    /** Makes a list of the elements 0 to 11. */
+    void fillUp(int key) {
+        fill(key, 0, 1, 2, 3, 4, 5, 6, 7, 8, 9, 10, 11);
+    }
+
+    /** Makes a ranking of the members 0 to 11, which stand in this order. */
+    void rankUp(int key) {
+        for (int m = 0; m < 12; m++) {
+            score(key, m, m);
+        }
+    }
+
+    /** The key is NOTHING in all that can be asked of it. */
+    void isNothing(int key) {
+        ask(key, 0).is(NOTHING);
+        ask(key, 1).is(0);
+        ask(key, 2).is(0);
+        ask(key, 3).is(-1);
+        element(key, 0).is(NONE);
+    }
+
+    void isNumber(int key, int number) {
+        ask(key, 0).is(NUMBER);
+        ask(key, 1).is(number);
+        ask(key, 2).is(0);
+    }
+
+    void isList(int key, int... elements) {
+        ask(key, 0).is(LIST);
+        holds(key, elements);
+    }
+
+    /** The key is a ranking of just these members, in this order. */
+    void isRanking(int key, int... members) {
+        ask(key, 0).is(RANKING);
+        holds(key, members);
+    }
+
+    private void holds(int key, int... items) {
+        ask(key, 1).is(0);
         ask(key, 2).is(items.length);
         for (int i = 0; i < items.length; i++) {
             element(key, i).is(items[i]);
@@ -135,16 +255,9 @@ final class Probe {
         element(key, items.length).is(NONE);
     }
 
-    /** A list of these elements, put there one after the other by client 3. */
-    void fill(int key, int... elements) {
-        for (int element : elements) {
-            store.command(3, BACK, key, element, 0);
-        }
-    }
-
-    /** Whether client 2 is deceived: it begins and commits, and so watches nothing afterwards. */
-    void deceived(boolean want) {
-        begin(2).is(true);
-        commit(2).is(want ? -2 : 0);
+    /** Whether a client is deceived: it begins and commits, and so watches nothing afterwards. */
+    void deceived(int client, boolean want) {
+        begin(client).is(true);
+        commit(client).is(want ? -2 : 0);
     }
 }
