@@ -1,4 +1,4 @@
-/** Promise 18: which test comes first; and the constants of the public face. */
+/** Promise 18: which test comes first; how long an object lasts; and the constants of the public face. */
 public final class OrderTest {
     public static void main(String[] args) {
         commitTestsGatheringFirst();
@@ -9,6 +9,9 @@ public final class OrderTest {
         commandRefusesBeforeAnythingElse();
         listenRefusesBeforeItIsWrong();
         listenRefusesBeforeItTakes();
+        fiveHundredTwelveCommands();
+        fiveHundredTwelveCallsOfWaiting();
+        fiveHundredTwelveCallsOfTheLog();
         theConstants();
         Probe.finish();
     }
@@ -112,6 +115,40 @@ public final class OrderTest {
         s.listen(2, 7, 7, 0).is(Probe.NONE);
         s.listen(2, 1, 1, 0).is(Probe.REFUSED);
         s.isList(1, 1);
+    }
+
+    /** "An object is used for at most 512 calls": and up to the last one it answers as it must. */
+    private static void fiveHundredTwelveCommands() {
+        Probe s = new Probe();
+        for (int i = 1; i <= 512; i++) {
+            s.add(0, 1).is(i);
+        }
+    }
+
+    private static void fiveHundredTwelveCallsOfWaiting() {
+        Probe s = new Probe();
+        for (int i = 0; i < 128; i++) {
+            s.listen(0, 1, 2, 0).is(Probe.NONE);
+            s.listen(1, 2, 1, 50).is(Probe.NONE);
+            s.back(1, i).is(1);
+            s.back(2, -i).is(1);
+        }
+        Probe last = new Probe();
+        for (int i = 0; i < 170; i++) {
+            last.listen(0, 1, 2, 0).is(Probe.NONE);
+            last.back(1, i).is(1);
+            last.got(0, 1).is(i);
+        }
+    }
+
+    private static void fiveHundredTwelveCallsOfTheLog() {
+        Probe s = new Probe();
+        for (int i = 1; i <= 128; i++) {
+            s.add(0, 1).is(i);
+            s.sync();
+            s.rewrite();
+            s.crash().is(1);
+        }
     }
 
     private static void theConstants() {
